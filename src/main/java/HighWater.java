@@ -559,9 +559,6 @@ public final class HighWater {
             return STATE;
         }
         now.become(kept);
-        for (int i = now.islands; i < ISLANDS; i++) {
-            islands[i] = null;
-        }
         return now.islands;
     }
 
@@ -960,7 +957,7 @@ public final class HighWater {
         }
     }
 
-    /** What AN IMAGE keeps. ISLANDS themselves never change, so how many there are is enough. */
+    /** What AN IMAGE keeps. ISLANDS themselves never change: those behind as many as there are, are none. */
     private static final class Bay {
         final int[] highs = new int[TIDES];
         final int[][] places = new int[PEOPLE][TIDES];

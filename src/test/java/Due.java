@@ -53,4 +53,14 @@ final class Due {
         }
         return x;
     }
+
+    /** A bay of 0 ISLAND 20, 1 ISLAND 30, 2 LOW 40 (under water at 5), 3 BARRED 10 (one with 0 below 6). */
+    static HighWater four(int people) {
+        HighWater x = bay(people);
+        x.island(0, 20, 0, 0);
+        x.island(0, 30, 0, 0);
+        x.island(2, 40, 4, 0);
+        x.island(5, 10, 6, 0);
+        return x;
+    }
 }

@@ -7,22 +7,13 @@ public final class FamilyTest {
         Due.end();
     }
 
-    private static HighWater four(int people) {
-        HighWater x = Due.bay(people);
-        x.island(0, 20, 0, 0);
-        x.island(0, 30, 0, 0);
-        x.island(2, 40, 4, 0);
-        x.island(5, 10, 6, 0);
-        return x;
-    }
-
     private static void family(HighWater x, int set, int t, int much, int digits) {
         Due.is("family " + set + " at " + t, x.family(set, t, 0), much);
         Due.is("its digits", x.family(set, t, 1), digits);
     }
 
     private static void family() {
-        HighWater x = four(3);
+        HighWater x = Due.four(3);
         family(x, 0, 0, 0, 0);
         family(x, 1, 0, 29, 1);
         family(x, 2, 0, 29, 1);
@@ -52,9 +43,24 @@ public final class FamilyTest {
         Due.is("what -1", x.family(1, 0, -1), -7);
         Due.is("-5 ahead of -7", x.family(8, 0, 2), -5);
         // By costs of each: from 3 one stays on it, though another one is nearer to 0.
-        HighWater y = four(2);
+        HighWater y = Due.four(2);
         y.go(1, 0, 3);
         family(y, 3, 1, 30 + 28, 24);
+        // Where those of the set are is all the same: of like ones the first.
+        HighWater z = Due.four(3);
+        z.go(0, 0, 1);
+        z.go(1, 0, 3);
+        z.go(2, 0, 2);
+        family(z, 7, 0, 29 + 28, 12);
+        family(z, 3, 0, 29 + 28, 12);
+        // The last of all WAYS.
+        HighWater last = Due.bay(2);
+        last.island(0, 10, 0, 0);
+        last.island(0, 50, 0, 0);
+        family(last, 1, 0, 48, 2);
+        family(last, 2, 0, 48, 2);
+        last.go(0, 0, 0);
+        family(last, 2, 0, 48, 2);
         family(new HighWater(), 0, 0, 0, 0);
         Due.is("nobody's set", new HighWater().family(1, 0, 0), -5);
     }
@@ -65,7 +71,7 @@ public final class FamilyTest {
     }
 
     private static void spoil() {
-        HighWater x = four(3);
+        HighWater x = Due.four(3);
         spoil(x, 0, 0, -1, 0);
         x.go(1, 0, 0);
         // 30 (with 3): spoiled on 0, or on 3.
@@ -86,6 +92,13 @@ public final class FamilyTest {
         x.go(0, 0, 0);
         spoil(x, 0, 0, 0, 0);
         Due.is("it changes nothing", x.at(0, 0), 0);
+        // The last one spoils it for the first ones.
+        HighWater y = Due.four(3);
+        y.go(0, 0, 1);
+        spoil(y, 2, 0, 1, 0);
+        y.go(1, 0, 0);
+        y.tide(0, 6);
+        spoil(y, 2, 0, 1, 20);
         Due.is("what 2", x.spoil(0, 0, 2), -7);
         Due.is("what -1", x.spoil(0, 0, -1), -7);
         Due.is("nobody", x.spoil(3, 0, 0), -5);
@@ -96,7 +109,7 @@ public final class FamilyTest {
     }
 
     private static void ransom() {
-        HighWater x = four(3);
+        HighWater x = Due.four(3);
         x.go(0, 0, 0);
         Due.is("nobody in the way", x.ransom(0, 1, 0), 0);
         x.go(1, 0, 3);

@@ -2,6 +2,7 @@
 public final class HostTest {
     public static void main(String[] args) {
         sheet();
+        zeros();
         cell();
         copy();
         copyRefuses();
@@ -53,6 +54,24 @@ public final class HostTest {
             x.cell(1, 2, -1);
             Due.is("-1", x.judge(1, 0), -1);
         }
+    }
+
+    /** A row made anew, of any sort, is all 0: so are the ISLANDS of it. */
+    private static void zeros() {
+        HighWater x = new HighWater();
+        for (int sort = 0; sort < 3; sort++) {
+            tell(x, 0, 2 - sort, 1, 1, 1, 1, 1, 1, 1, 1);
+            x.sheet(0, sort, 4);
+            Due.is("one of zeros", x.islandsBy(0, sort, 0, 1), 1);
+            for (int what = 0; what < 4; what++) {
+                Due.is("zero", x.told(sort, what), 0);
+            }
+        }
+        tell(x, 1, 2, 1, 1, 1, 1);
+        x.sheet(1, -1, 0);
+        x.sheet(1, 2, 4);
+        x.islandsBy(1, 2, 0, 1);
+        Due.is("zero behind missing", x.told(3, 1), 0);
     }
 
     private static void cell() {

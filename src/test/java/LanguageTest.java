@@ -156,7 +156,8 @@ public final class LanguageTest {
         while (imports.find()) {
             Due.isTrue(imports.group(1), imports.group(1).equals("java.util.Arrays"));
         }
-        Matcher library = Pattern.compile("\\b(Arrays|System|Math|Integer|Long)\\.\\w+").matcher(bare.replace("java.util.", ""));
+        String used = bare.replace("java.util.", "");
+        Matcher library = Pattern.compile("\\b(Arrays|System|Math|Integer|Long)\\.\\w+").matcher(used);
         while (library.find()) {
             Due.isTrue(library.group(), Arrays.asList(LIBRARY).contains(library.group()));
         }

@@ -3,6 +3,7 @@ public final class TextTest {
     public static void main(String[] args) {
         faults();
         openFaults();
+        nextText();
         goodTexts();
         values();
         wrapping();
@@ -92,6 +93,13 @@ public final class TextTest {
         faultInE("@tol");
         faultInE("@t");
         faultInE("@tolda");
+        faultInE("@toldz");
+        faultInE("1 + @zt");
+        faultInE("- @foo 1");
+        faultInE("(@foo 1)");
+        faultInE("not @nott 1");
+        faultInE("told @foo told");
+        faultInE("1 + @foo 1");
         faultInE("@numbers");
         faultInE("@nott");
         faultInE("1 @ands 2");
@@ -127,6 +135,22 @@ public final class TextTest {
         good("worth ((((-1))));costs ((((not 1))));storm ((((1))))*(-(-(1)));");
         good("worth not not not not not 1 and not not not not not 1;costs (((((1)))))<(((((1)))));storm 0;");
         good("worth - - - - - 1 * - - - - - 1;costs -1*(((((1)))));storm 0;");
+    }
+
+    /** What was open when a FAULT was met is no longer open for the next TEXT. */
+    private static void nextText() {
+        HighWater x = new HighWater();
+        Due.is("a fault in five", Due.text(x, "worth (((((;"), -111);
+        Due.is("five again", Due.text(x, "worth (((((1)))));costs - - - - - 1;storm not not not not not 1;"), 1);
+        Due.is("a fault behind a sign", Due.text(x, "worth 1 - ;"), -110);
+        Due.is("nothing", Due.text(x, ""), -100);
+        Due.is("another one", Due.text(x, "worth 3;costs 4;storm 5;"), 2);
+        x.force(2);
+        Due.is("worth", x.asks(0, 0, 0, 0, 0), 3);
+        Due.is("costs", x.asks(1, 0, 0, 0, 0), 4);
+        Due.is("storm", x.asks(2, 0, 0, 0, 0), 5);
+        x.force(1);
+        Due.is("worth of the first", x.asks(0, 0, 0, 0, 0), 1);
     }
 
     private static void goodTexts() {

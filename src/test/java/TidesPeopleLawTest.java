@@ -190,6 +190,8 @@ public final class TidesPeopleLawTest {
             x.force(k);
             Due.is("each says its own", x.asks(0, 0, 0, 0, 0), k);
         }
+        Due.is("force(6) of six", x.force(6), -2);
+        Due.is("the law stays", x.count(3), 5);
     }
 
     private static void force() {

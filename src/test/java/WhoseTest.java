@@ -12,16 +12,6 @@ public final class WhoseTest {
         Due.end();
     }
 
-    /** 0 ISLAND 20, 1 ISLAND 30, 2 LOW 40 (under water at 5), 3 BARRED 10 (one with 0 below 6). */
-    private static HighWater four(int people) {
-        HighWater x = Due.bay(people);
-        x.island(0, 20, 0, 0);
-        x.island(0, 30, 0, 0);
-        x.island(2, 40, 4, 0);
-        x.island(5, 10, 6, 0);
-        return x;
-    }
-
     private static void owners(HighWater x, int t, int... due) {
         for (int i = 0; i < due.length; i++) {
             Due.is("whose " + i + " at " + t, x.whose(i, t), due[i]);
@@ -29,7 +19,7 @@ public final class WhoseTest {
     }
 
     private static void whose() {
-        HighWater x = four(3);
+        HighWater x = Due.four(3);
         owners(x, 0, -1, -1, -1, -1);
         x.go(0, 0, 0);
         owners(x, 0, 0, -1, -1, 0);
@@ -61,7 +51,7 @@ public final class WhoseTest {
     }
 
     private static void gain() {
-        HighWater x = four(2);
+        HighWater x = Due.four(2);
         Due.is("on the shore", x.gain(0, 0), 0);
         x.go(0, 0, 0);
         Due.is("0 and 3", x.gain(0, 0), 30);
@@ -91,7 +81,7 @@ public final class WhoseTest {
     }
 
     private static void costs() {
-        HighWater x = four(2);
+        HighWater x = Due.four(2);
         int[] places = {2, 0, 0, -1, 1, 3, -1, -1, 0, 2, 2, 1};
         int[] due = {3, 2, 0, 0, 2, 2, 0, 0, 1, 2, 0, 1};
         for (int t = 0; t < 12; t++) {
@@ -106,7 +96,7 @@ public final class WhoseTest {
         Due.is("tide 12", x.costs(0, 12), -5);
         Due.is("tide -1", x.costs(0, -1), -5);
         // What costs is told: the TIDE gone at, the ISLAND gone to; told, more 0.
-        HighWater y = four(1);
+        HighWater y = Due.four(1);
         y.island(3, 77, 8, 9);
         y.go(0, 6, 1);
         y.go(0, 7, 4);
@@ -118,7 +108,7 @@ public final class WhoseTest {
             Due.law(y, "worth 0; costs " + names[k] + "; storm 0;");
             Due.is(names[k], y.costs(0, 7), dueAt7[k]);
         }
-        HighWater z = four(1);
+        HighWater z = Due.four(1);
         z.island(3, 77, 8, 9);
         z.go(0, 0, 4);
         Due.law(z, "worth 0; costs told + 50; storm 0;");
@@ -131,7 +121,7 @@ public final class WhoseTest {
     }
 
     private static void year() {
-        HighWater x = four(2);
+        HighWater x = Due.four(2);
         int[] places = {0, 1, 1, -1, 2, 3, 3, -1, -1, -1, -1, -1};
         for (int t = 0; t < 12; t++) {
             x.go(0, t, places[t]);
@@ -152,6 +142,10 @@ public final class WhoseTest {
         Due.is("nobody", x.year(-1, 3), -5);
         x.go(1, 11, 1);
         Due.is("the last tide", x.year(1, 0), 30);
+        HighWater y = Due.bay(1);
+        y.island(0, 1, 0, 0);
+        y.go(0, 0, 0);
+        Due.is("1 is above 0", y.year(0, 2), 1);
     }
 
     private static void best(HighWater x, int p, int t, int place, int left) {
@@ -160,7 +154,7 @@ public final class WhoseTest {
     }
 
     private static void best() {
-        HighWater x = four(2);
+        HighWater x = Due.four(2);
         // From the shore: 30-1, 30-2, 0-3, 30-4.
         best(x, 0, 0, 0, 29);
         x.go(1, 0, 3);
@@ -192,7 +186,7 @@ public final class WhoseTest {
     }
 
     private static void wise() {
-        HighWater x = four(2);
+        HighWater x = Due.four(2);
         // 29 at TIDE 0 on 0; then stays, 30 each.
         Due.is("wise(0)", x.wise(0), 29 + 11 * 30);
         for (int t = 0; t < 12; t++) {
@@ -217,7 +211,7 @@ public final class WhoseTest {
     }
 
     private static void rest() {
-        HighWater x = four(2);
+        HighWater x = Due.four(2);
         Due.is("all on the shore", x.rest(0), 0);
         x.go(0, 0, 0);
         Due.is("the other could have 1", x.rest(0), 0);
@@ -247,13 +241,19 @@ public final class WhoseTest {
     }
 
     private static void ways() {
-        HighWater x = four(2);
+        HighWater x = Due.four(2);
         // One of them on 0, the other one on 1.
         ways(x, 0, 2, 12);
         // From 3 the first one stays there; or the first one is on 1, the other one on 0.
         x.go(0, 0, 3);
         ways(x, 1, 2, 21);
         Due.is("it changes nothing", x.at(0, 1), -1);
+        // Where they are at the TIDE itself is all the same.
+        x.go(0, 1, 2);
+        x.go(1, 1, 3);
+        ways(x, 1, 2, 21);
+        x.go(1, 1, 0);
+        ways(x, 1, 2, 21);
         // Alone: the shore and the island are alike.
         HighWater y = Due.bay(1);
         y.island(0, 1, 0, 0);
