@@ -1,16 +1,40 @@
+import java.util.List;
+
 /** Counts and tells the answers that are not the ones due; helps tests to feed texts. */
 final class Due {
     private static int wrong = 0;
     private static int asked = 0;
+    private static String sentence = "";
 
     private Due() {
+    }
+
+    /** The document's words that the answers from now on are held to. */
+    static void sentence(String words) {
+        sentence = "[" + words + "] ";
     }
 
     static void is(String call, long got, long want) {
         asked++;
         if (got != want) {
             wrong++;
-            System.out.println(call + " answered " + got + ", due is " + want);
+            System.out.println(sentence + call + " answered " + got + ", due is " + want);
+        }
+    }
+
+    /** Two objects keep the same: the one had a call that may change nothing, the other one had not. Both are used up. */
+    static void same(String call, HighWater x, HighWater y) {
+        List<String> got = Kept.of(x);
+        List<String> want = Kept.of(y);
+        asked++;
+        if (!got.equals(want)) {
+            wrong++;
+            int k = 0;
+            while (k < got.size() && k < want.size() && got.get(k).equals(want.get(k))) {
+                k++;
+            }
+            System.out.println(sentence + "behind " + call + " there is " + (k < got.size() ? got.get(k) : "less")
+                    + ", due is " + (k < want.size() ? want.get(k) : "no more"));
         }
     }
 
@@ -25,12 +49,18 @@ final class Due {
         }
     }
 
-    /** Feeds a text's bytes, one by one. */
+    /** Feeds a text's bytes, as many at a time as one call takes. */
     static void feed(HighWater x, String text) {
-        for (int k = 0; k < text.length(); k++) {
-            int had = x.count(4);
-            is("feed of byte " + k, x.feed(1, text.charAt(k), 0, 0, 0, 0), had + 1);
+        int had = x.count(4);
+        for (int k = 0; k < text.length(); k += 5) {
+            int n = Math.min(5, text.length() - k);
+            is("feed from byte " + k, x.feed(n, byteAt(text, k), byteAt(text, k + 1), byteAt(text, k + 2),
+                    byteAt(text, k + 3), byteAt(text, k + 4)), had + k + n);
         }
+    }
+
+    private static int byteAt(String text, int k) {
+        return k < text.length() ? text.charAt(k) : 0;
     }
 
     static int text(HighWater x, String text) {
